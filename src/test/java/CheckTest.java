@@ -24,16 +24,23 @@ public final class CheckTest {
         due("the ROW of THE STORE behind an unCHANGED ROW", 1, "stored", 2048, 1 << 30);
         due("a WORD of THE STORE behind an unCHANGED LINE", 1, "stored", 0, 5);
         due("a WORD of THE STORE behind a CHANGED LINE", 0, "stored", 5, 5);
+        due("the ROW of THE STORE behind an unCHANGED LINE whose ROW is not kept", 1, "stored", 2050, 1 << 10);
+        due("a TAG of an unCHANGED LINE whose ROW is not kept", 1, "lineTags", 5, 2);
         DUE.end();
     }
 
-    /** LINE 0 unCHANGED at PLACE 0, LINE 1 CHANGED at PLACE 1; ROW 0 unCHANGED, ROW 1 CHANGED. */
+    /**
+     * LINE 0 unCHANGED at PLACE 0, LINE 1 CHANGED at PLACE 1; ROW 0 unCHANGED, ROW 1 CHANGED;
+     * LINE 37 unCHANGED at PLACE 5, without its ROW 2, that ROW 6 has driven out.
+     */
     private static TagMemory mixed() {
         TagMemory m = new TagMemory();
         m.put(38, 1, 2, true);
         m.drop(3);
         m.read(0);
         m.put(2, 3, 4, true);
+        m.read(4 * 37);
+        m.read(4 * 102);
         return m;
     }
 

@@ -5,6 +5,18 @@ final class Due {
     }
 
     private int wrong = 0;
+    private String sentence = "";
+
+    /** Runs the test of one sentence of the document; what is wrong is told under that sentence. */
+    void about(String words, Call test) {
+        sentence = "\"" + words + "\": ";
+        try {
+            test.run();
+        } catch (RuntimeException e) {
+            report("the test was ended by " + e);
+        }
+        sentence = "";
+    }
 
     void is(String call, long got, long want) {
         if (got != want) {
@@ -15,6 +27,19 @@ final class Due {
     void is(String call, boolean got, boolean want) {
         if (got != want) {
             report(call + " answered " + got + ", due is " + want);
+        }
+    }
+
+    void is(String call, String got, String want) {
+        if (!got.equals(want)) {
+            report(call + " is\n  " + got + "\ndue is\n  " + want);
+        }
+    }
+
+    /** The counts 0, 1, 2 .. of an object, as many as are wanted. */
+    void counted(String when, TagMemory m, int... want) {
+        for (int what = 0; what < want.length; what++) {
+            is(when + ": count(" + what + ")", m.count(what), want[what]);
         }
     }
 
@@ -32,7 +57,7 @@ final class Due {
 
     void report(String text) {
         wrong++;
-        System.out.println(text);
+        System.out.println(sentence + text);
     }
 
     /** Ends with exit code 1 if anything was wrong. */

@@ -31,12 +31,6 @@ public final class PromisesTest {
         DUE.end();
     }
 
-    private static void counted(String when, TagMemory m, int... want) {
-        for (int what = 0; what < want.length; what++) {
-            DUE.is(when + ": count(" + what + ")", m.count(what), want[what]);
-        }
-    }
-
     private static int[] withFar(int... near) {
         int[] all = Arrays.copyOf(FAR, FAR.length + near.length);
         System.arraycopy(near, 0, all, FAR.length, near.length);
@@ -51,10 +45,10 @@ public final class PromisesTest {
         for (int p = 0; p < 20; p++) {
             DUE.is("new: kept(" + p + ")", m.kept(p), -1);
         }
-        counted("new", m, 0, 0, 0, 0, 0, 0, 0, 0, 0);
+        DUE.counted("new", m, 0, 0, 0, 0, 0, 0, 0, 0, 0);
         DUE.is("new: check()", m.check(), 0);
         DUE.is("new: flush()", m.flush(), 0);
-        counted("new, flushed", m, 0, 0, 0, 0, 0, 0, 0, 0, 0);
+        DUE.counted("new, flushed", m, 0, 0, 0, 0, 0, 0, 0, 0, 0);
     }
 
     private static void read() {
@@ -64,12 +58,12 @@ public final class PromisesTest {
         DUE.is("read(0)", m.read(0), 5);
         DUE.is("read(1)", m.read(1), 0);
         DUE.is("read(2047)", m.read(2047), -6);
-        counted("kept LINES are read in place", m, 2, 0, 2, 0, 0, 2, 2, 2, 0);
+        DUE.counted("kept LINES are read in place", m, 2, 0, 2, 0, 0, 2, 2, 2, 0);
         m.flush();
         DUE.is("read(2047) from THE STORE", m.read(2047), -6);
         DUE.is("kept(15)", m.kept(15), 511);
         DUE.is("kept(19)", m.kept(19), 31);
-        counted("a LINE read is not CHANGED", m, 3, 2, 3, 2, 0, 1, 0, 1, 0);
+        DUE.counted("a LINE read is not CHANGED", m, 3, 2, 3, 2, 0, 1, 0, 1, 0);
         for (int i : withFar(2048, 2079)) {
             DUE.refuses("read(" + i + ")", INDEX, () -> m.read(i));
         }
@@ -88,7 +82,7 @@ public final class PromisesTest {
         DUE.is("tag(2047)", m.tag(2047), true);
         DUE.is("tag(2046)", m.tag(2046), true);
         DUE.is("tag(2045)", m.tag(2045), false);
-        counted("tag wants the LINE and does not change it", m, 4, 2, 3, 2, 2, 1, 0, 1, 0);
+        DUE.counted("tag wants the LINE and does not change it", m, 4, 2, 3, 2, 2, 1, 0, 1, 0);
         for (int i : withFar(2048)) {
             DUE.refuses("tag(" + i + ")", INDEX, () -> m.tag(i));
         }
@@ -150,7 +144,7 @@ public final class PromisesTest {
         for (int at : new int[] {1, 3}) {
             DUE.refuses("part(0, " + at + ", 2, 1)", ARGUMENT, () -> m.part(0, at, 2, 1));
         }
-        counted("part refused", m, 0, 0, 0, 0, 0, 0, 0, 0, 0);
+        DUE.counted("part refused", m, 0, 0, 0, 0, 0, 0, 0, 0, 0);
     }
 
     private static void put() {
@@ -209,10 +203,10 @@ public final class PromisesTest {
         DUE.is("read(1)", m.read(1), 6);
         DUE.is("tag(0)", m.tag(0), true);
         DUE.is("store(129)", m.store(129), 6);
-        counted("copy within one PLACE", m, 2, 1, 2, 0, 2, 1, 1, 2, 1);
+        DUE.counted("copy within one PLACE", m, 2, 1, 2, 0, 2, 1, 1, 2, 1);
         DUE.is("copy(64, 128)", m.copy(64, 128), false);
         DUE.is("kept(0) is g's LINE, wanted last", m.kept(0), 32);
-        counted("f's LINE came between", m, 4, 2, 3, 1, 1, 1, 1, 2, 1);
+        DUE.counted("f's LINE came between", m, 4, 2, 3, 1, 1, 1, 1, 2, 1);
     }
 
     private static void drop() {
@@ -227,7 +221,7 @@ public final class PromisesTest {
         DUE.is("store(13)", m.store(13), 2);
         DUE.is("store(2048) is written later", m.store(2048), 0);
         DUE.is("kept(16)", m.kept(16), 0);
-        counted("dropped", m, 2, 1, 1, 0, 1, 0, 0, 1, 1);
+        DUE.counted("dropped", m, 2, 1, 1, 0, 1, 0, 0, 1, 1);
         m.read(2047);
         DUE.is("drop(15)", m.drop(15), 0);
         DUE.is("drop(0)", m.drop(0), -1);
@@ -248,9 +242,9 @@ public final class PromisesTest {
         for (int p = 0; p < 20; p++) {
             DUE.is("flushed: kept(" + p + ")", m.kept(p), -1);
         }
-        counted("flushed", m, 3, 2, 2, 2, 2, 0, 0, 0, 0);
+        DUE.counted("flushed", m, 3, 2, 2, 2, 2, 0, 0, 0, 0);
         DUE.is("flush() again", m.flush(), 0);
-        counted("flushed again", m, 3, 2, 2, 2, 2, 0, 0, 0, 0);
+        DUE.counted("flushed again", m, 3, 2, 2, 2, 2, 0, 0, 0, 0);
         flushInOrder();
     }
 
@@ -259,9 +253,9 @@ public final class PromisesTest {
         TagMemory m = new TagMemory();
         m.put(128, 1, 1, true);
         m.put(3, 2, 2, true);
-        counted("before the flush", m, 2, 0, 2, 0, 2, 2, 2, 1, 0);
+        DUE.counted("before the flush", m, 2, 0, 2, 0, 2, 2, 2, 1, 0);
         DUE.is("flush() in order", m.flush(), 2);
-        counted("after the flush", m, 2, 2, 4, 2, 2, 0, 0, 0, 0);
+        DUE.counted("after the flush", m, 2, 2, 4, 2, 2, 0, 0, 0, 0);
         DUE.is("store(2048)", m.store(2048), 8);
         DUE.is("store(2052)", m.store(2052), 1);
     }
@@ -278,7 +272,7 @@ public final class PromisesTest {
         m.flush();
         DUE.is("store(2079)", m.store(2079), Integer.MIN_VALUE);
         DUE.is("store(2078)", m.store(2078), 0);
-        counted("store wants nothing", m, 1, 1, 1, 1, 1, 0, 0, 0, 0);
+        DUE.counted("store wants nothing", m, 1, 1, 1, 1, 1, 0, 0, 0, 0);
         for (int i : withFar(2080)) {
             DUE.refuses("store(" + i + ")", INDEX, () -> m.store(i));
         }
@@ -308,15 +302,15 @@ public final class PromisesTest {
         DUE.is("ROW 4 took ROW 0's PLACE", m.kept(16), 4);
         DUE.is("LINE 0 stays without its ROW", m.kept(0), 0);
         DUE.is("tag(0)", m.tag(0), true);
-        counted("a kept LINE wants no ROW", m, 2, 0, 2, 0, 1, 2, 1, 1, 0);
+        DUE.counted("a kept LINE wants no ROW", m, 2, 0, 2, 0, 1, 2, 1, 1, 0);
         DUE.is("drop(0)", m.drop(0), 1);
         DUE.is("the ROW came for the LINE that went", m.kept(16), 0);
-        counted("its ROW came and is CHANGED", m, 2, 1, 3, 0, 1, 1, 0, 1, 1);
+        DUE.counted("its ROW came and is CHANGED", m, 2, 1, 3, 0, 1, 1, 0, 1, 1);
         m.drop(1);
         DUE.is("a LINE not CHANGED fetches no ROW", m.kept(16), 0);
         m.read(260);
         DUE.is("the CHANGED ROW was written back", m.store(2048), 1);
-        counted("ROW 0 written back", m, 3, 1, 4, 1, 1, 1, 0, 1, 0);
+        DUE.counted("ROW 0 written back", m, 3, 1, 4, 1, 1, 1, 0, 1, 0);
         m.put(130, 0, 0, false);
         m.drop(1);
         DUE.is("a ROW is CHANGED, also if its TAGS stay the same", m.count(8), 1);
@@ -331,7 +325,7 @@ public final class PromisesTest {
         DUE.is("kept(0)", m.kept(0), 64);
         DUE.is("kept(16)", m.kept(16), 4);
         DUE.is("store(2048)", m.store(2048), 2);
-        counted("ROW 0 came and went", m, 3, 1, 4, 1, 1, 2, 0, 1, 0);
+        DUE.counted("ROW 0 came and went", m, 3, 1, 4, 1, 1, 2, 0, 1, 0);
     }
 
     private static void countOfTags() {
@@ -358,7 +352,7 @@ public final class PromisesTest {
         m.put(0, 1, 2, true);
         m.read(4);
         m.read(64);
-        counted("counts", m, 3, 1, 2, 0, 1, 2, 0, 2, 1);
+        DUE.counted("counts", m, 3, 1, 2, 0, 1, 2, 0, 2, 1);
         for (int what : withFar(9)) {
             DUE.refuses("count(" + what + ")", ARGUMENT, () -> m.count(what));
         }
@@ -389,6 +383,6 @@ public final class PromisesTest {
         DUE.is("kept(0)", m.kept(0), 0);
         DUE.is("read(0)", m.read(0), 1);
         DUE.is("tag(0)", m.tag(0), true);
-        counted("refused", m, 1, 0, 1, 0, 1, 1, 1, 1, 0);
+        DUE.counted("refused", m, 1, 0, 1, 0, 1, 1, 1, 1, 0);
     }
 }
