@@ -82,11 +82,10 @@ public final class ModelTest {
     private Object[] argumentsOf(String name) {
         return switch (name) {
             case "read", "tag" -> new Object[] {orEdge(word())};
-            case "write" -> new Object[] {orEdge(word()), random.nextInt()};
+            case "write" -> new Object[] {orEdge(word()), value()};
             case "part" -> new Object[] {orEdge(word()), orEdge(random.nextInt(5)), orEdge(1 + random.nextInt(2)),
-                random.nextInt()};
-            case "put" -> new Object[] {orEdge(word() / 2), random.nextInt(), random.nextInt(),
-                random.nextInt(3) != 0};
+                value()};
+            case "put" -> new Object[] {orEdge(word() / 2), value(), value(), random.nextInt(3) != 0};
             case "copy" -> new Object[] {orEdge(word() / 2), orEdge(word() / 2)};
             case "drop" -> new Object[] {orEdge(random.nextInt(16))};
             case "store" -> new Object[] {orEdge(random.nextBoolean() ? word() : 2048 + word() / 64)};
@@ -98,6 +97,11 @@ public final class ModelTest {
 
     private int orEdge(int usual) {
         return random.nextInt(40) == 0 ? EDGES[random.nextInt(EDGES.length)] : usual;
+    }
+
+    /** Often 0: a LINE that is written with what it has already is CHANGED all the same. */
+    private int value() {
+        return random.nextBoolean() ? 0 : random.nextInt();
     }
 
     /** Narrow: few LINES of each ROW, and ROWS 0, 4, 8 .. that share a PLACE. */
